@@ -36,9 +36,9 @@ public final class BoundProofs {
     private final Problem[] images = {new Problem(), new Problem()};
     private final boolean[] saved = new boolean[IMAGES];
     private final Reader reader = new Reader();
-    private final Rows rows = new Rows();
-    private final Circuit circuit = new Circuit(rows);
-    private final Clashes clashes = new Clashes(rows, circuit);
+    private final Clashes clashes = new Clashes();
+    private final Circuit circuit = clashes.circuit;
+    private final Rows rows = circuit.rows;
     private final Limit limit = new Limit();
     private final Sampler sampler = new Sampler();
     private final Corners corners = new Corners();
@@ -49,7 +49,6 @@ public final class BoundProofs {
     private long lastTold = 0;
 
     public BoundProofs() {
-        rows.restart(problem.variables);
     }
 
     // ---- texts, forms
@@ -717,7 +716,7 @@ public final class BoundProofs {
         final boolean[] equal = new boolean[MOST_ROWS];
         int size = 0;
         /** How many variables the rows have; a circuit has at most one member more. */
-        int variables = 0;
+        int variables = 2;
 
         void restart(int ofVariables) {
             size = 0;
@@ -770,7 +769,8 @@ public final class BoundProofs {
          */
         boolean hold(long a, long b, long c, long bottom, boolean closed) {
             for (int i = 0; i < size; i++) {
-                long left = entry(i, 0) * a + entry(i, 1) * b + entry(i, 2) * c;
+                int p = i * MOST_VARIABLES;
+                long left = coefficients[p] * a + coefficients[p + 1] * b + coefficients[p + 2] * c;
                 long most = right[i] * bottom;
                 if (left > most || left < most && equal[i] || left == most && strict[i] && !closed) {
                     return false;
@@ -812,7 +812,7 @@ public final class BoundProofs {
      * be above 0 at once.
      */
     private static final class Circuit {
-        final Rows rows;
+        final Rows rows = new Rows();
         private final int[] member = new int[MOST_MEMBERS];
         private final int[] factor = new int[MOST_MEMBERS];
         private int size = 0;
@@ -820,10 +820,6 @@ public final class BoundProofs {
         long sum = 0;
         /** Whether a strict row is among them. */
         boolean strict = false;
-
-        Circuit(Rows ofRows) {
-            rows = ofRows;
-        }
 
         /** Whether the set is such a circuit; its factors and sum are known then. */
         boolean examine(int set) {
@@ -941,16 +937,11 @@ public final class BoundProofs {
 
     /** The smallest unsatisfiable sets of the rows, those of the first rows first. */
     private static final class Clashes {
-        private final Rows rows;
-        private final Circuit circuit;
+        final Circuit circuit = new Circuit();
+        private final Rows rows = circuit.rows;
         final int[] set = new int[MOST_CLASHES];
         /** How many sets there are among the first rows, for each number of rows. */
         private final int[] sizeAt = new int[MOST_ROWS + 1];
-
-        Clashes(Rows ofRows, Circuit ofCircuit) {
-            rows = ofRows;
-            circuit = ofCircuit;
-        }
 
         int size() {
             return sizeAt[rows.size];
@@ -1036,9 +1027,9 @@ public final class BoundProofs {
 
     /** The sample point. */
     private static final class Sampler {
+        private final Circuit circuit = new Circuit();
         /** The rows in the variables that have no number yet; their right sides are multiplied by scale. */
-        private final Rows rest = new Rows();
-        private final Circuit circuit = new Circuit(rest);
+        private final Rows rest = circuit.rows;
         private long scale = 1;
         /** The suprema of a variable and of its negative. */
         private final Limit high = new Limit();
@@ -1091,9 +1082,9 @@ public final class BoundProofs {
         }
 
         /**
-         * Finds the simplest number between two ends that has only numbers above 0 there, the lower end
-         * being given with its sign turned. If there is an integer, it is the smallest one. If not, all
-         * are one integer plus 1/y, and the simplest one has the simplest y.
+         * Finds the simplest number between two ends with only numbers above 0 between them; the lower end
+         * is given with its sign turned. If there are integers, it is the smallest one of them. If not,
+         * all numbers are the same integer plus 1/y, and the simplest one has the simplest y.
          */
         private void descend(Limit turnedLeast, Limit most) {
             long leastTop = -turnedLeast.top;
@@ -1110,7 +1101,9 @@ public final class BoundProofs {
             long s = 1;
             // The denominators shrink as in Euclid's algorithm, so 200 steps are never reached.
             for (int i = 0; i < 200 && leastBottom > 0; i++) {
-                long first = leastOpen ? Math.floorDiv(leastTop, leastBottom) + 1 : -Math.floorDiv(-leastTop, leastBottom);
+                long first = leastOpen
+                        ? Math.floorDiv(leastTop, leastBottom) + 1
+                        : -Math.floorDiv(-leastTop, leastBottom);
                 if (!ends || first * mostBottom < mostTop || first * mostBottom == mostTop && !mostOpen) {
                     foundTop = p * first + q;
                     foundBottom = r * first + s;

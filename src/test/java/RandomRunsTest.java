@@ -70,6 +70,9 @@ public final class RandomRunsTest {
     }
 
     private String randomText() {
+        if (random.nextInt(20) == 0) {
+            return random.nextBoolean() ? "" : "  ";
+        }
         StringBuilder t = new StringBuilder();
         int n = pick(1, 3);
         if (n != 2 || random.nextBoolean()) {
