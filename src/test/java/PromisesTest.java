@@ -216,6 +216,9 @@ public final class PromisesTest {
         }
         C.due("90 characters", Checks.tell(x, full + ";"), 1);
         C.due("90 characters without an end", Checks.tell(x, full + " "), -100);
+        C.due("90 characters, the last a digit", Checks.tell(x, full.substring(0, 80) + ";b0 0   50"), -100);
+        C.due("a longer text that is gone", Checks.tell(x, "fa;b0 0 555"), -18);
+        C.due("leaves no digit behind the end", Checks.tell(x, "fa;b0 0 5"), -19);
     }
 
     private static void fails(String text, int position) {
