@@ -2,15 +2,22 @@
 final class Checks {
     private int wrong = 0;
     private String about = "";
+    private String text = "";
 
     void about(String what) {
         about = what;
+        text = "";
+    }
+
+    /** The text that the object at hand was read from, for the report. */
+    void text(String what) {
+        text = " [" + what + "]";
     }
 
     void due(String call, long got, long want) {
         if (got != want) {
             wrong++;
-            System.out.println(about + ": " + call + " answered " + got + ", due is " + want);
+            System.out.println(about + text + ": " + call + " answered " + got + ", due is " + want);
         }
     }
 
